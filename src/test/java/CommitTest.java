@@ -9,6 +9,7 @@ final class CommitTest {
         exactFitOfUpdate();
         shadowedEntriesCount();
         fullDirectory();
+        crowdedDirectory();
         keptCrcIsNotComputedAgain();
         afterCutToOlderVersion();
         leavesFoundList();
@@ -172,24 +173,40 @@ final class CommitTest {
             Zips.stage(less, 200 - k);
         }
         Check.due("commit() of 8 names in 209 bytes", less.commit(), ZipRecover.ERR_FULL);
+    }
 
-        // The most names a directory can have: local headers that overlap by the crc field.
-        int[] image = new int[0];
-        for (int i = 0; i < 11; i++) {
-            image = Zips.join(image, Zips.bytes(0x50, 0x4B, 3, 4, i, 0, 0));
+    /** An openable image whose local headers overlap: the crc field of each is the signature of the next. */
+    private static int[] crowded(int count) {
+        int[] locals = new int[0];
+        int[] centrals = new int[0];
+        for (int i = 0; i < count; i++) {
+            locals = Zips.join(locals, Zips.bytes(0x50, 0x4B, 3, 4, i, 0, 0));
+            centrals = Zips.join(centrals, Zips.centralOf(i, 0, 0x04034B50L, 7 * i));
         }
-        image = Zips.join(image, Zips.bytes(0x50, 0x4B, 3, 4));
-        for (int i = 0; i < 11; i++) {
-            image = Zips.join(image, Zips.centralOf(i, 0, 0x04034B50L, 7 * i));
-        }
-        image = Zips.join(image, Zips.end(11, 81));
-        ZipRecover crowded = Zips.holding(image);
-        Check.due("isOpenable()", crowded.isOpenable(), true);
+        locals = Zips.join(locals, Zips.bytes(0x50, 0x4B, 3, 4));
+        return Zips.join(locals, centrals, Zips.end(count, locals.length));
+    }
+
+    private static void crowdedDirectory() {
+        // No directory has more names: 12 * 7 + 4 + 12 * 13 + 9 = 253.
+        int[] image = crowded(12);
+        ZipRecover most = Zips.holding(image);
+        Check.due("isOpenable()", most.isOpenable(), true);
         for (int k = 0; k < 8; k++) {
-            Zips.stage(crowded, 100 + k);
+            Zips.stage(most, 100 + k);
         }
-        Check.due("commit() to a crowded image", crowded.commit(), ZipRecover.ERR_FULL);
-        Zips.dueImage("after a refused commit", crowded, image);
+        Check.due("commit() to a crowded image", most.commit(), ZipRecover.ERR_FULL);
+        Zips.dueImage("after a refused commit", most, image);
+
+        // 39 + 65 + 9 = 113
+        int[] five = crowded(5);
+        ZipRecover x = Zips.holding(five);
+        Zips.stage(x, 2, 8);
+        Check.due("commit() to a crowded image", x.commit(), 113 + 12 + 65 + 9);
+        Zips.dueImage("after an update of overlapping records", x, five, Zips.local(2, 8),
+            Zips.centralOf(0, 0, 0x04034B50L, 0), Zips.centralOf(1, 0, 0x04034B50L, 7), Zips.central(2, 113, 8),
+            Zips.centralOf(3, 0, 0x04034B50L, 21), Zips.centralOf(4, 0, 0x04034B50L, 28), Zips.end(5, 125));
+        Check.due("isOpenable()", x.isOpenable(), true);
     }
 
     private static void keptCrcIsNotComputedAgain() {
