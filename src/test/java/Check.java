@@ -2,6 +2,9 @@
 final class Check {
     private static int checked = 0;
     private static int wrong = 0;
+    private static int sentences = 0;
+    private static String sentence = "";
+    private static int checkedBefore = -1;
 
     private Check() {
     }
@@ -27,9 +30,25 @@ final class Check {
         }
     }
 
+    /** From here on the answers belong to this sentence of the document, word for word, under this heading. */
+    static void sentence(String heading, String words) {
+        dueSentenceTested();
+        sentences++;
+        sentence = heading + ": " + words;
+        checkedBefore = checked;
+    }
+
+    private static void dueSentenceTested() {
+        if (checked == checkedBefore) {
+            wrong++;
+            System.out.println("no answer was looked at for '" + sentence + "'");
+        }
+    }
+
     private static void report(String call, String got, String want) {
         wrong++;
-        System.out.println(call + " answered " + got + ", due is " + want);
+        String because = sentence.isEmpty() ? "" : ", for '" + sentence + "'";
+        System.out.println(call + " answered " + got + ", due is " + want + because);
     }
 
     /** The number of wrong answers so far. */
@@ -39,7 +58,9 @@ final class Check {
 
     /** Ends the test: with exit code 1 if an answer was wrong or none was looked at. */
     static void end() {
-        System.out.println(checked + " answers checked, " + wrong + " not as due");
+        dueSentenceTested();
+        String of = sentences == 0 ? "" : " for " + sentences + " sentences";
+        System.out.println(checked + " answers checked" + of + ", " + wrong + " not as due");
         if (wrong != 0 || checked == 0) {
             System.exit(1);
         }

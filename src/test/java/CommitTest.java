@@ -175,21 +175,9 @@ final class CommitTest {
         Check.due("commit() of 8 names in 209 bytes", less.commit(), ZipRecover.ERR_FULL);
     }
 
-    /** An openable image whose local headers overlap: the crc field of each is the signature of the next. */
-    private static int[] crowded(int count) {
-        int[] locals = new int[0];
-        int[] centrals = new int[0];
-        for (int i = 0; i < count; i++) {
-            locals = Zips.join(locals, Zips.bytes(0x50, 0x4B, 3, 4, i, 0, 0));
-            centrals = Zips.join(centrals, Zips.centralOf(i, 0, 0x04034B50L, 7 * i));
-        }
-        locals = Zips.join(locals, Zips.bytes(0x50, 0x4B, 3, 4));
-        return Zips.join(locals, centrals, Zips.end(count, locals.length));
-    }
-
     private static void crowdedDirectory() {
         // No directory has more names: 12 * 7 + 4 + 12 * 13 + 9 = 253.
-        int[] image = crowded(12);
+        int[] image = Zips.crowded(12);
         ZipRecover most = Zips.holding(image);
         Check.due("isOpenable()", most.isOpenable(), true);
         for (int k = 0; k < 8; k++) {
@@ -199,7 +187,7 @@ final class CommitTest {
         Zips.dueImage("after a refused commit", most, image);
 
         // 39 + 65 + 9 = 113
-        int[] five = crowded(5);
+        int[] five = Zips.crowded(5);
         ZipRecover x = Zips.holding(five);
         Zips.stage(x, 2, 8);
         Check.due("commit() to a crowded image", x.commit(), 113 + 12 + 65 + 9);

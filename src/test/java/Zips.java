@@ -1,4 +1,6 @@
 import java.util.Arrays;
+import java.util.function.BooleanSupplier;
+import java.util.function.LongSupplier;
 import java.util.zip.CRC32;
 
 /** Builds images and objects for the tests, and reads objects through their public face. */
@@ -63,6 +65,18 @@ final class Zips {
         return endOf(count, dirOffset, 13 * count);
     }
 
+    /** An openable image whose local headers overlap: the crc field of each is the signature of the next. */
+    static int[] crowded(int count) {
+        int[] locals = new int[0];
+        int[] centrals = new int[0];
+        for (int i = 0; i < count; i++) {
+            locals = join(locals, bytes(0x50, 0x4B, 3, 4, i, 0, 0));
+            centrals = join(centrals, centralOf(i, 0, 0x04034B50L, 7 * i));
+        }
+        locals = join(locals, bytes(0x50, 0x4B, 3, 4));
+        return join(locals, centrals, end(count, locals.length));
+    }
+
     /** size bytes that begin no record. */
     static int[] filler(int size) {
         int[] data = new int[size];
@@ -77,17 +91,49 @@ final class Zips {
         }
     }
 
+    /** What a commit answers that would bring a new image to this length, which is 42 or more. */
+    static int fillTo(ZipRecover x, int length) {
+        int size = length - 42;
+        if (length > 170) {
+            stage(x, 1, filler(60));
+            Check.due("commit() of the first filler", x.commit(), 102);
+            size = length - 135;
+        }
+        stage(x, 1, filler(size));
+        return x.commit();
+    }
+
+    private static void empty(ZipRecover x) {
+        x.discard();
+        x.truncate(0);
+        Check.due("salvage() of nothing", x.salvage(), 0);
+    }
+
+    /** Uses the object up: of all lengths, it reaches this one and not the next. */
+    static void dueCapacity(ZipRecover x, int capacity) {
+        empty(x);
+        Check.due("commit() to one byte over the capacity " + capacity, fillTo(x, capacity + 1), ZipRecover.ERR_FULL);
+        empty(x);
+        Check.due("commit() to the capacity " + capacity, fillTo(x, capacity), capacity);
+    }
+
+    /** The call answers so, and changes nothing that the queries show. */
+    static void dueUnchanged(String call, ZipRecover x, BooleanSupplier run, boolean want) {
+        String before = state(x);
+        Check.due(call, run.getAsBoolean(), want);
+        Check.due("the state after " + call, state(x), before);
+    }
+
+    static void dueUnchanged(String call, ZipRecover x, LongSupplier run, long want) {
+        String before = state(x);
+        Check.due(call, run.getAsLong(), want);
+        Check.due("the state after " + call, state(x), before);
+    }
+
     /** A new object whose image has been made to be this one; nothing is pending or found. */
     static ZipRecover holding(int capacity, int[] image) {
         ZipRecover x = new ZipRecover(capacity);
-        int size = capacity - 42;
-        if (capacity > 170) {
-            stage(x, 1, filler(60));
-            Check.due("commit() of the first filler", x.commit(), 102);
-            size = capacity - 135;
-        }
-        stage(x, 1, filler(size));
-        Check.due("commit() of filler", x.commit(), capacity);
+        Check.due("commit() of filler", fillTo(x, capacity), capacity);
         Check.due("truncate", x.truncate(image.length), true);
         for (int pos = 0; pos < image.length; pos++) {
             Check.due("poke", x.poke(pos, image[pos]), true);
