@@ -192,6 +192,23 @@ final class CommitEdgesTest {
                 Check.due("sizeOf(" + name + ")", x.sizeOf(name), pending ? 4 : kept);
             }
         }
+        // The names 0 to m - 1, or 1 to m, with the count m among them.
+        for (int first = 0; first <= 1; first++) {
+            for (int m = 1; m <= 3; m++) {
+                ZipRecover x = new ZipRecover(256);
+                for (int k = 0; k < m; k++) {
+                    Zips.stage(x, first + k, k);
+                }
+                x.commit();
+                Zips.stage(x, 200);
+                x.commit();
+                for (int k = 0; k < m; k++) {
+                    Zips.dueDir(x, k, first + k, 1, Zips.crc(k), 9 + 12 * k);
+                }
+                Check.due("dirInfo(" + m + ", 0)", x.dirInfo(m, 0), 200);
+                Check.due("dirInfo(" + (m + 1) + ", 0)", x.dirInfo(m + 1, 0), -1);
+            }
+        }
         // An empty directory has nothing to keep.
         ZipRecover empty = new ZipRecover(64);
         Zips.stage(empty, 0);
@@ -281,8 +298,9 @@ final class CommitEdgesTest {
     private static void fieldsOfTheLocalRecord() {
         Check.sentence(FIVE, "Name, size and crc are as in the corresponding local record.");
         // A kept crc is copied, even where the data does not have it; a new one is computed.
-        ZipRecover x = Zips.holding(Zips.join(Zips.localHeader(0, 1, 0xFFFFFFFFL), Zips.bytes(9), Zips.localHeader(255, 0, 0x01020304L),
-            Zips.centralOf(0, 1, 0xFFFFFFFFL, 0), Zips.centralOf(255, 0, 0x01020304L, 12), Zips.end(2, 23)));
+        int[] locals = Zips.join(Zips.localHeader(0, 1, 0xFFFFFFFFL), Zips.bytes(9), Zips.localHeader(255, 0, 0x01020304L));
+        ZipRecover x = Zips.holding(Zips.join(locals, Zips.centralOf(0, 1, 0xFFFFFFFFL, 0),
+            Zips.centralOf(255, 0, 0x01020304L, 12), Zips.end(2, 23)));
         Zips.stage(x, 128, Zips.filler(128));
         Check.due("commit()", x.commit(), 58 + 139 + 39 + 9);
         Zips.dueDir(x, 0, 0, 1, 0xFFFFFFFFL, 0);

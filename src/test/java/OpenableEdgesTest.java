@@ -124,10 +124,9 @@ final class OpenableEdgesTest {
         due("a header up to the directory", true, Zips.localHeader(1, 0, 9), Zips.centralOf(1, 0, 9, 0), Zips.end(1, 11));
         due("a header that shares its crc with the directory", false, Zips.bytes(0x50, 0x4B, 3, 4, 1, 0, 0),
             Zips.centralOf(1, 0, 0x02014B50L, 0), Zips.end(1, 7));
-        // A record after the directory's start: its central record in the data of the directory's own.
-        due("an offset of the directory", false, Zips.centralOf(1, 0, 0, 0), Zips.end(1, 0));
+        due("a directory at 0, before which no local record fits", false, Zips.centralOf(1, 0, 0, 0), Zips.end(1, 0));
         // Sums that would be small in 16 bits.
-        due("an offset and a size past 65535", false, Zips.localHeader(1, 65535, 9), Zips.centralOf(1, 65535, 9, 0), Zips.end(1, 11));
+        due("a size of 65535", false, Zips.localHeader(1, 65535, 9), Zips.centralOf(1, 65535, 9, 0), Zips.end(1, 11));
         due("a size of 65525", false, Zips.localHeader(1, 65525, 9), Zips.centralOf(1, 65525, 9, 0), Zips.end(1, 11));
         due("an offset of 65535", false, ONE, Zips.central(1, 65535, 5, 6), Zips.end(1, 13));
         due("an offset of 256", false, ONE, Zips.central(1, 256, 5, 6), Zips.end(1, 13));
@@ -159,7 +158,8 @@ final class OpenableEdgesTest {
 
     private static void ascendingNames() {
         Check.sentence(TERMS, "n_(i-1) < n_i for every i with 0 < i < c.");
-        int[][] pairs = {{0, 1}, {0, 255}, {127, 128}, {254, 255}, {5, 4}, {5, 5}, {5, 6}, {255, 0}, {128, 127}, {0, 0}, {255, 255}};
+        int[][] pairs = {
+            {0, 1}, {0, 255}, {127, 128}, {254, 255}, {5, 4}, {5, 5}, {5, 6}, {255, 0}, {128, 127}, {0, 0}, {255, 255}};
         for (int[] pair : pairs) {
             due("the names " + pair[0] + " and " + pair[1], pair[0] < pair[1], Zips.local(pair[0]), Zips.local(pair[1]),
                 Zips.central(pair[0], 0), Zips.central(pair[1], 11), Zips.end(2, 22));

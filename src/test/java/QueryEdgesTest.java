@@ -225,6 +225,12 @@ final class QueryEdgesTest {
         }
         Check.due("dataAt(0, 0)", x.dataAt(0, 0), 8);
         Check.due("dataAt(255, 0)", x.dataAt(255, 0), 10);
+        // Also where the image begins with bytes that could be taken for a record.
+        ZipRecover atTheStart = Zips.holding(Zips.join(Zips.localHeader(9, 2, 0), Zips.bytes(0, 0), Zips.centralOf(9, 2, 0, 0),
+            Zips.end(1, 13)));
+        for (int name = 0; name < 256; name++) {
+            Check.due("dataAt(" + name + ", 0)", atTheStart.dataAt(name, 0), name == 9 ? 0 : -1);
+        }
     }
 
     private static void dataAtOutside() {

@@ -232,6 +232,25 @@ final class TermsEdgesTest {
         far.poke(247 + 5, 0);
         far.poke(247 + 6, 247);
         Check.due("isOpenable() with the dirOffset's bytes changed about", far.isOpenable(), false);
+        highByteIsWorth256();
+    }
+
+    /** A high byte of 1 is 256, and no smaller power of two. */
+    private static void highByteIsWorth256() {
+        for (int value = 1; value <= 128; value = value * 2) {
+            ZipRecover end = Zips.holding(Zips.join(Zips.filler(value), Zips.endOf(0, 256, 0)));
+            Check.due("isOpenable() with a dirOffset of 256 for " + value, end.isOpenable(), false);
+            ZipRecover offset = Zips.holding(Zips.join(Zips.filler(value), Zips.local(1), Zips.central(1, 256), Zips.end(1, value + 11)));
+            Check.due("isOpenable() with an offset of 256 for " + value, offset.isOpenable(), false);
+            int[] record = Zips.join(Zips.localHeader(1, 256, Zips.crc(Zips.filler(value))), Zips.filler(value));
+            ZipRecover size = Zips.holding(Zips.join(record, Zips.centralOf(1, 256, Zips.crc(Zips.filler(value)), 0),
+                Zips.end(1, value + 11)));
+            Check.due("isOpenable() with a size of 256 for " + value, size.isOpenable(), false);
+            Check.due("salvage() with a size of 256 for " + value, size.salvage(), 0);
+            // The scan stops there: what follows is not found, though there is room for it.
+            ZipRecover stopped = Zips.holding(Zips.join(Zips.localHeader(1, 256, 1), Zips.filler(value), Zips.local(2)));
+            Check.due("salvage() after a size of 256 for " + value, stopped.salvage(), 0);
+        }
     }
 
     private static void crcRange() {
@@ -402,7 +421,8 @@ final class TermsEdgesTest {
                 Zips.stage(x, n & 1, 1, 2);
                 int before = x.length();
                 int answer = x.commit();
-                Check.due("commit() answers the length or ERR_FULL", answer, x.length() > before ? x.length() : ZipRecover.ERR_FULL);
+                int due = x.length() > before ? x.length() : ZipRecover.ERR_FULL;
+                Check.due("commit() answers the length or ERR_FULL", answer, due);
                 x.discard();
                 Check.due("the length stays within " + capacity, x.length() <= capacity, true);
                 x.salvage();
